@@ -351,6 +351,7 @@ public final class RegexCaptures {
                 addSameRuns(start, first * PLACES + i);
                 setGroup(start, usedValue[part], i);
                 break;
+            case EMPTY:
             default:
                 addRun(start, i, NO_RUN, NO_RUN);
                 break;
