@@ -1,165 +1,33 @@
-/** One method for each promise of the document: ordinary inputs, its edges, wrong inputs. */
-public final class PromisesTest {
-    private static final int BAD_ARG = -1;
-    private static final int FULL = -2;
-    private static final int TOO_FEW = -3;
-    private static final int NONE = -4;
-    private static final int[] WRONG = {-1, 3, 4, 32, -4, 1 << 16, Integer.MIN_VALUE, Integer.MAX_VALUE};
-
-    private static int wrong = 0;
-    private static String promise = "";
-
+/** One method for each promise of the document: what it does. Its limits stand in the boundary tests. */
+public final class PromisesTest extends Checks {
     public static void main(String[] args) {
-        newObject();
-        letter();
-        any();
-        empty();
-        cat();
-        alt();
-        star();
-        lazy();
-        group();
-        steps();
-        depth();
-        discard();
-        define();
-        feed();
-        erase();
-        length();
-        find();
-        end();
-        groupIn();
-        spans();
-        groupInWhole();
-        count();
-        longest();
-        System.out.println(wrong == 0 ? "every promise holds" : wrong + " answers are not as due");
-        if (wrong != 0) {
-            System.exit(1);
-        }
-    }
-
-    private static void due(String what, long got, long want) {
-        if (got != want) {
-            wrong++;
-            System.out.println(promise + ": " + what + " answered " + got + ", due is " + want);
-        }
-    }
-
-    private static void due(String what, boolean got, boolean want) {
-        due(what, got ? 1 : 0, want ? 1 : 0);
-    }
-
-    private static void due(String what, String got, String want) {
-        if (!got.equals(want)) {
-            wrong++;
-            System.out.println(promise + ": " + what + " gave " + got + ", due is " + want);
-        }
-    }
-
-    /** One call of a pattern in postfix form: 0 1 2 letter, . any, e empty, & cat, | alt, * star, ? lazy, a b c group. */
-    private static int step(RegexCaptures x, char step) {
-        switch (step) {
-            case '.': return x.any();
-            case 'e': return x.empty();
-            case '&': return x.cat();
-            case '|': return x.alt();
-            case '*': return x.star();
-            case '?': return x.lazy();
-            case 'a': return x.group(0);
-            case 'b': return x.group(1);
-            case 'c': return x.group(2);
-            default: return x.letter(step - '0');
-        }
-    }
-
-    /** Makes every step and answers what the last one answered. */
-    private static int build(RegexCaptures x, String postfix) {
-        int last = 0;
-        for (char step : postfix.toCharArray()) {
-            last = step(x, step);
-        }
-        return last;
-    }
-
-    private static void write(RegexCaptures x, String text) {
-        for (char c : text.toCharArray()) {
-            x.feed(c - '0');
-        }
-    }
-
-    private static RegexCaptures with(String postfix, String text) {
-        RegexCaptures x = new RegexCaptures();
-        build(x, postfix);
-        x.define();
-        write(x, text);
-        return x;
-    }
-
-    private static RegexCaptures building(String postfix) {
-        RegexCaptures x = new RegexCaptures();
-        build(x, postfix);
-        return x;
-    }
-
-    /** All that the object tells of the pattern in use and the text. */
-    private static String found(RegexCaptures x) {
-        // Asked once: an object promises nothing after 512 calls.
-        int n = x.length();
-        StringBuilder s = new StringBuilder("n=" + n);
-        for (int f = 0; f <= n; f++) {
-            s.append(" ").append(x.find(f)).append("-").append(x.end(f));
-            for (int g = 0; g < 3; g++) {
-                s.append("/").append(x.groupIn(f, g));
-            }
-            for (int j = 0; j <= n; j++) {
-                s.append(x.spans(f, j) ? "+" : ".");
-            }
-        }
-        for (int g = 0; g < 3; g++) {
-            s.append(" w").append(x.groupInWhole(g));
-        }
-        return s + " c" + x.count() + " l" + x.longest();
-    }
-
-    /** All that the object tells. */
-    private static String told(RegexCaptures x) {
-        return "steps=" + x.steps() + " depth=" + x.depth() + " " + found(x);
-    }
-
-    /** The ends that spans tells from i, such as "0 2". */
-    private static String ends(RegexCaptures x, int i) {
-        int n = x.length();
-        StringBuilder s = new StringBuilder();
-        for (int j = 0; j <= n; j++) {
-            s.append(x.spans(i, j) ? (s.length() == 0 ? "" : " ") + j : "");
-        }
-        return s.toString();
-    }
-
-    /** A refused step answers its code, and the object is as one that was never asked. */
-    private static void refused(String before, char step, int code) {
-        RegexCaptures asked = building(before);
-        RegexCaptures spared = building(before);
-        String told = told(asked);
-        due(before + " then " + step, step(asked, step), code);
-        due(before + " after the refused " + step, told(asked), told);
-        sameStack(before + " refused " + step, asked, spared);
-    }
-
-    /** Joins, defines and uses what is on both stacks, as far as the steps reach. */
-    private static void sameStack(String what, RegexCaptures one, RegexCaptures other) {
-        for (int k = 0; k < 6; k++) {
-            due(what + ", joined", one.alt(), other.alt());
-        }
-        due(what + ", defined", one.define(), other.define());
-        write(one, "0120010212");
-        write(other, "0120010212");
-        due(what + ", in use", told(one), told(other));
+        test("1 A new object", PromisesTest::newObject);
+        test("2 letter", PromisesTest::letter);
+        test("3 any", PromisesTest::any);
+        test("4 empty", PromisesTest::empty);
+        test("5 cat", PromisesTest::cat);
+        test("6 alt", PromisesTest::alt);
+        test("7 star", PromisesTest::star);
+        test("8 lazy", PromisesTest::lazy);
+        test("9 group", PromisesTest::group);
+        test("10 steps", PromisesTest::steps);
+        test("11 depth", PromisesTest::depth);
+        test("12 discard", PromisesTest::discard);
+        test("13 define", PromisesTest::define);
+        test("14 feed", PromisesTest::feed);
+        test("15 erase", PromisesTest::erase);
+        test("16 length", PromisesTest::length);
+        test("17 find", PromisesTest::find);
+        test("18 end", PromisesTest::end);
+        test("19 groupIn", PromisesTest::groupIn);
+        test("20 spans", PromisesTest::spans);
+        test("21 groupInWhole", PromisesTest::groupInWhole);
+        test("22 count", PromisesTest::count);
+        test("23 longest", PromisesTest::longest);
+        finish();
     }
 
     private static void newObject() {
-        promise = "1 A new object";
         RegexCaptures x = new RegexCaptures();
         due("steps", x.steps(), 0);
         due("depth", x.depth(), 0);
@@ -184,7 +52,6 @@ public final class PromisesTest {
     }
 
     private static void letter() {
-        promise = "2 letter";
         RegexCaptures x = new RegexCaptures();
         for (int k = 1; k <= 6; k++) {
             due("letter", x.letter(k % 3), k);
@@ -192,17 +59,13 @@ public final class PromisesTest {
         due("seventh", x.letter(0), FULL);
         due("wrong and full", x.letter(3), BAD_ARG);
         due("depth", x.depth(), 6);
-        for (int c : WRONG) {
+        for (int c : NOT_0_TO_2) {
             RegexCaptures y = new RegexCaptures();
             due("letter(" + c + ")", y.letter(c), BAD_ARG);
             due("told after", told(y), told(new RegexCaptures()));
             y = building("0***************");
             due("letter(" + c + ") at 16 steps", y.letter(c), BAD_ARG);
         }
-        refused("0***************", '1', FULL);
-        refused("000000", '1', FULL);
-        refused("012", '3', BAD_ARG);
-        due("the 16th step", building("0**************").letter(1), 2);
         for (int c = 0; c < 3; c++) {
             RegexCaptures y = with("" + c, "012");
             for (int i = 0; i <= 3; i++) {
@@ -213,15 +76,11 @@ public final class PromisesTest {
     }
 
     private static void any() {
-        promise = "3 any";
         RegexCaptures x = new RegexCaptures();
         for (int k = 1; k <= 6; k++) {
             due("any", x.any(), k);
         }
         due("seventh", x.any(), FULL);
-        refused("0***************", '.', FULL);
-        refused("012012", '.', FULL);
-        due("the 16th step", building("0**************").any(), 2);
         RegexCaptures y = with(".", "012");
         due("from 0", ends(y, 0), "1");
         due("from 1", ends(y, 1), "2");
@@ -231,15 +90,11 @@ public final class PromisesTest {
     }
 
     private static void empty() {
-        promise = "4 empty";
         RegexCaptures x = new RegexCaptures();
         for (int k = 1; k <= 6; k++) {
             due("empty", x.empty(), k);
         }
         due("seventh", x.empty(), FULL);
-        refused("0***************", 'e', FULL);
-        refused("012012", 'e', FULL);
-        due("the 16th step", building("0**************").empty(), 2);
         RegexCaptures y = with("e", "01");
         due("from 0", ends(y, 0), "0");
         due("from 1", ends(y, 1), "1");
@@ -247,15 +102,9 @@ public final class PromisesTest {
     }
 
     private static void cat() {
-        promise = "5 cat";
         due("of two", building("01").cat(), 1);
         due("of three", building("012").cat(), 2);
         due("of six", building("000000").cat(), 5);
-        refused("", '&', TOO_FEW);
-        refused("0", '&', TOO_FEW);
-        refused("0***************", '&', FULL);
-        refused("0**************1", '&', FULL);
-        due("the 16th step", building("0*************1").cat(), 1);
         RegexCaptures x = with("01&", "0110");
         due("X before Y", ends(x, 0), "2");
         due("not Y before X", ends(x, 2), "");
@@ -277,14 +126,8 @@ public final class PromisesTest {
     }
 
     private static void alt() {
-        promise = "6 alt";
         due("of two", building("01").alt(), 1);
         due("of three", building("012").alt(), 2);
-        refused("", '|', TOO_FEW);
-        refused("0", '|', TOO_FEW);
-        refused("0***************", '|', FULL);
-        refused("0**************1", '|', FULL);
-        due("the 16th step", building("0*************1").alt(), 1);
         RegexCaptures x = with("01|", "012");
         due("from 0", ends(x, 0), "1");
         due("from 1", ends(x, 1), "2");
@@ -302,12 +145,8 @@ public final class PromisesTest {
     }
 
     private static void star() {
-        promise = "7 star";
         due("of one", building("0").star(), 1);
         due("of three", building("012").star(), 3);
-        refused("", '*', TOO_FEW);
-        refused("0***************", '*', FULL);
-        due("the 16th step", building("0**************").star(), 1);
         RegexCaptures x = with("0*", "0001");
         due("from 0", ends(x, 0), "0 1 2 3");
         due("most first", x.end(0), 3);
@@ -329,12 +168,8 @@ public final class PromisesTest {
     }
 
     private static void lazy() {
-        promise = "8 lazy";
         due("of one", building("0").lazy(), 1);
         due("of three", building("012").lazy(), 3);
-        refused("", '?', TOO_FEW);
-        refused("0***************", '?', FULL);
-        due("the 16th step", building("0**************").lazy(), 1);
         RegexCaptures x = with("0?", "0001");
         due("from 0", ends(x, 0), "0 1 2 3");
         due("nothing first", x.end(0), 0);
@@ -349,29 +184,14 @@ public final class PromisesTest {
     }
 
     private static void group() {
-        promise = "9 group";
         for (int g = 0; g < 3; g++) {
             due("group " + g, building("01").group(g), 2);
         }
-        for (int g : WRONG) {
+        for (int g : NOT_0_TO_2) {
             due("group(" + g + ")", building("0").group(g), BAD_ARG);
             due("with no pattern", building("").group(g), BAD_ARG);
             due("at 16 steps", building("0***************").group(g), BAD_ARG);
         }
-        refused("", 'a', TOO_FEW);
-        refused("0***************", 'a', FULL);
-        refused("0a**************", 'a', FULL);
-        due("the 16th step", building("0**************").group(2), 1);
-        for (char g : "abc".toCharArray()) {
-            refused("0" + g, g, NONE);
-            refused("0" + g + "*", g, NONE);
-            refused("0" + g + "?", g, NONE);
-            refused("0" + g + "1&", g, NONE);
-            refused("10" + g + "&", g, NONE);
-            refused("0" + g + "1|", g, NONE);
-            refused("10" + g + "|*", g, NONE);
-        }
-        refused("0ab", 'a', NONE);
         due("in another pattern of the stack", build(building("0a1"), "a"), 2);
         due("another group inside", build(building("0a"), "bc"), 1);
         due("of a pattern discarded", build(discarded("0a"), "0a"), 1);
@@ -392,7 +212,6 @@ public final class PromisesTest {
     }
 
     private static void steps() {
-        promise = "10 steps";
         RegexCaptures x = new RegexCaptures();
         String pattern = "0.e&|*?abc1&";
         for (int k = 0; k < pattern.length(); k++) {
@@ -420,7 +239,6 @@ public final class PromisesTest {
     }
 
     private static void depth() {
-        promise = "11 depth";
         RegexCaptures x = new RegexCaptures();
         int[] want = {1, 2, 3, 2, 1, 1, 1, 1, 2};
         String pattern = "0.e&|*?a1";
@@ -440,7 +258,6 @@ public final class PromisesTest {
     }
 
     private static void discard() {
-        promise = "12 discard";
         RegexCaptures x = with("0*a1&", "001");
         String found = found(x);
         build(x, "012");
@@ -460,7 +277,6 @@ public final class PromisesTest {
     }
 
     private static void define() {
-        promise = "13 define";
         RegexCaptures x = new RegexCaptures();
         write(x, "0121");
         due("empty stack", x.define(), TOO_FEW);
@@ -495,14 +311,13 @@ public final class PromisesTest {
     }
 
     private static void feed() {
-        promise = "14 feed";
         RegexCaptures x = with("2", "");
         for (int k = 1; k <= 10; k++) {
             due("feed", x.feed(k == 10 ? 2 : k % 2), k);
         }
         due("the last letter", x.find(0), 9);
         due("full", x.feed(0), FULL);
-        for (int c : WRONG) {
+        for (int c : NOT_0_TO_2) {
             due("wrong and full", x.feed(c), BAD_ARG);
             RegexCaptures y = with("0", "01");
             String told = told(y);
@@ -525,7 +340,6 @@ public final class PromisesTest {
     }
 
     private static void erase() {
-        promise = "15 erase";
         RegexCaptures x = with("0*a", "0000000000");
         build(x, "01");
         x.erase();
@@ -555,7 +369,6 @@ public final class PromisesTest {
     }
 
     private static void length() {
-        promise = "16 length";
         RegexCaptures x = new RegexCaptures();
         due("at first", x.length(), 0);
         for (int k = 1; k <= 10; k++) {
@@ -576,7 +389,6 @@ public final class PromisesTest {
     }
 
     private static void find() {
-        promise = "17 find";
         RegexCaptures x = with("12&", "0120120");
         int[] want = {1, 1, 4, 4, 4, NONE, NONE, NONE, NONE};
         for (int f = 0; f < want.length; f++) {
@@ -594,7 +406,6 @@ public final class PromisesTest {
     }
 
     private static void end() {
-        promise = "18 end";
         RegexCaptures x = with("12*&", "0122012");
         int[] want = {4, 4, 7, 7, 7, 7, NONE, NONE, NONE};
         for (int f = 0; f < want.length; f++) {
@@ -610,7 +421,6 @@ public final class PromisesTest {
     }
 
     private static void groupIn() {
-        promise = "19 groupIn";
         RegexCaptures x = with("1a2b&0c|", "1212");
         due("group 0 from 0", x.groupIn(0, 0), 1);
         due("group 1 from 0", x.groupIn(0, 1), 16 + 2);
@@ -620,7 +430,7 @@ public final class PromisesTest {
         for (int f : new int[] {3, 4, 5, -1, 11, Integer.MIN_VALUE, Integer.MAX_VALUE}) {
             due("no find from " + f, x.groupIn(f, 0), NONE);
         }
-        for (int g : WRONG) {
+        for (int g : NOT_0_TO_2) {
             due("groupIn(0, " + g + ")", x.groupIn(0, g), NONE);
             due("both wrong", x.groupIn(-1, g), NONE);
         }
@@ -635,7 +445,6 @@ public final class PromisesTest {
     }
 
     private static void spans() {
-        promise = "20 spans";
         RegexCaptures x = with("00&1|*", "00100");
         due("from 0", ends(x, 0), "0 2 3 5");
         due("from 1", ends(x, 1), "1");
@@ -656,13 +465,12 @@ public final class PromisesTest {
     }
 
     private static void groupInWhole() {
-        promise = "21 groupInWhole";
         RegexCaptures x = with("0?a.?b&", "001");
         due("the find ends at once", x.end(0), 0);
         due("group 0 of the whole", x.groupInWhole(0), 0);
         due("group 1 of the whole", x.groupInWhole(1), 3);
         due("unset", x.groupInWhole(2), NONE);
-        for (int g : WRONG) {
+        for (int g : NOT_0_TO_2) {
             due("groupInWhole(" + g + ")", x.groupInWhole(g), NONE);
         }
         due("no run to n", with("0a", "01").groupInWhole(0), NONE);
@@ -678,7 +486,6 @@ public final class PromisesTest {
     }
 
     private static void count() {
-        promise = "22 count";
         due("letters", with("0", "01001").count(), 3);
         due("none", with("2", "01001").count(), 0);
         due("none in no text", with("2", "").count(), 0);
@@ -694,7 +501,6 @@ public final class PromisesTest {
     }
 
     private static void longest() {
-        promise = "23 longest";
         due("of three", with("0*1&", "1010010").longest(), 3);
         due("the first is longest", with("0*1&", "0010101").longest(), 3);
         due("the last is longest", with("0*", "1000").longest(), 3);
