@@ -331,18 +331,20 @@ public final class TermsBoundaryTest extends Checks {
             for (String stack : new String[] {"", "0", "0abc", "012012", "0a" + times(14, "*"), "01201a" + times(10, "*")}) {
                 all.add(BUSY.text(text).stack(stack));
                 all.add(new Before("", text, stack));
+                all.add(new Before("01&02&&a", text, stack));
             }
         }
         return all;
     }
 
-    /** Every call of the face that answers a number, the ones with an argument with odd ones too. */
+    /** Every call that may be refused, those with an argument with many odd ones; spans counts as refused if false. */
     private static Map<String, ToIntFunction<RegexCaptures>> calls() {
         Map<String, ToIntFunction<RegexCaptures>> all = new LinkedHashMap<>();
         for (char step : ".e&|*?".toCharArray()) {
             all.put("step " + step, x -> step(x, step));
         }
         all.put("define", RegexCaptures::define);
+        all.put("longest", RegexCaptures::longest);
         for (int a : ODD_ARGUMENTS) {
             all.put("letter(" + a + ")", x -> x.letter(a));
             all.put("group(" + a + ")", x -> x.group(a));
@@ -352,6 +354,8 @@ public final class TermsBoundaryTest extends Checks {
             all.put("groupIn(" + a + ", 0)", x -> x.groupIn(a, 0));
             all.put("groupIn(0, " + a + ")", x -> x.groupIn(0, a));
             all.put("groupInWhole(" + a + ")", x -> x.groupInWhole(a));
+            all.put("spans(" + a + ", 0)", x -> x.spans(a, 0) ? 1 : NONE);
+            all.put("spans(0, " + a + ")", x -> x.spans(0, a) ? 1 : NONE);
         }
         return all;
     }
