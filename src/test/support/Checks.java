@@ -47,6 +47,10 @@ abstract class Checks {
         }
     }
 
+    static boolean allAsDue() {
+        return wrong == 0;
+    }
+
     static void finish() {
         System.out.println(wrong == 0 ? "all answers are as due" : wrong + " answers are not as due");
         if (wrong != 0) {
